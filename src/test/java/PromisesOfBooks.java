@@ -32,6 +32,12 @@ final class PromisesOfBooks {
         for (int what = 0; what <= 6; what++) {
             due("about(" + what + ")", new int[] {0, 0, 0, 30, 100, 0, 0}[what], x.about(what));
         }
+        for (int t = 0; t < 10; t++) {
+            due("about(1" + t + ")", 0, x.about(10 + t));
+        }
+        for (int h = 0; h < 5; h++) {
+            due("about(2" + h + ")", 10, x.about(20 + h));
+        }
         due("wrong()", BooksMoved.NONE, x.wrong());
         due("quarrels()", 0, x.quarrels());
         due("ordered(0, 0)", -1, x.ordered(0, 0));
@@ -210,6 +216,10 @@ final class PromisesOfBooks {
         both(x, 0, 8, -1, -1);
         both(x, 8, 1, -1, -1);
         both(x, 4, 4, 0, 0);
+        BooksMoved y = Tapes.withMarks("1ab", "1az", "1azz", "1b", "1ba", "1zzz", "1.0");
+        for (int i = 0; i < 6; i++) {
+            both(y, i, i + 1, -1, -1);
+        }
     }
 
     private void compareBehind() {
@@ -227,6 +237,15 @@ final class PromisesOfBooks {
         both(x, 7, 2, 1, -1);
         both(x, 7, 3, -1, -1);
         both(x, 3, 8, -1, -1);
+        BooksMoved y = Tapes.withMarks("1.0000", "1.0999", "1.1", "1.19", "1.2", "1.0000");
+        both(y, 0, 1, -1, -1);
+        both(y, 0, 2, -1, -1);
+        both(y, 1, 2, -1, 1);
+        both(y, 2, 3, -1, -1);
+        both(y, 3, 4, -1, 1);
+        both(y, 0, 5, -1, -1);
+        BooksMoved z = Tapes.withMarks("1.1", "1.0000");
+        both(z, 1, 0, -1, -1);
     }
 
     private void compareOthers() {

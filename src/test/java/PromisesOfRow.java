@@ -15,6 +15,7 @@ final class PromisesOfRow {
         checks.run("promise 22: takenOut by THE RULE", this::takenOutByRule);
         checks.run("promise 23: isOut", this::isOut);
         checks.run("promise 24: drawn", this::drawn);
+        checks.run("promise 24: the first place of many seeds", this::drawnFirst);
         checks.run("promise 24: drawn of others", this::drawnOfOthers);
         checks.run("promise 25: about", this::about);
     }
@@ -209,6 +210,19 @@ final class PromisesOfRow {
         drawnIs(x, 3, 0, 0, 0, 1);
         drawnIs(x, 4, 0, 1, 1, 1);
         rowIs(x, 0, 2, 1, 3, 4);
+    }
+
+    private void drawnFirst() {
+        int[] seeds = {1, 2, -1, 9999, 123456789, -987654321, Integer.MAX_VALUE, Integer.MIN_VALUE};
+        BooksMoved x = rowOf(40);
+        for (int seed : seeds) {
+            long s = (seed * 1103515245L + 12345L) & 0xffffffffL;
+            int place = (int) ((s >> 16) % 39);
+            drawnIs(x, 1, seed, 0, 0, 38);
+            x.misplace(place, place + 1);
+            drawnIs(x, 1, seed, 1, 1, 39);
+            x.misplace(place, place + 1);
+        }
     }
 
     private void drawnOfOthers() {
