@@ -8,6 +8,10 @@ public final class AllTests {
         new PromisesOfBooks(checks).all();
         new PromisesOfMoving(checks).all();
         new PromisesOfRow(checks).all();
+        new EdgesOfBooks(checks).all();
+        new EdgesOfMoving(checks).all();
+        new EdgesOfRow(checks).all();
+        new Refused(checks).all();
         new ModelRuns(checks).all();
         new Face(checks).all();
         new Language(checks, args.length > 0 ? args[0] : "src/main/java/BooksMoved.java").all();

@@ -2,11 +2,13 @@ import java.lang.reflect.Constructor;
 import java.lang.reflect.Field;
 import java.lang.reflect.Method;
 import java.lang.reflect.Modifier;
+import java.util.ArrayList;
 import java.util.Arrays;
+import java.util.List;
 import java.util.Set;
 import java.util.TreeSet;
 
-/** The public face is the document's, and nothing else can be seen from outside. */
+/** The public face is the document's, nothing else can be seen from outside, and the classes keep their size. */
 final class Face {
     private static final String[] METHODS = {
         "int feed(int,int,int,int,int)", "int end(int)", "int book(int,int,int)", "int wrong()", "boolean rule(int)",
@@ -25,6 +27,7 @@ final class Face {
     void all() {
         checks.run("the face: methods", this::methods);
         checks.run("the face: constants, constructors, classes", this::others);
+        checks.run("the language: few classes, fields and parameters, and their types", this::sizes);
     }
 
     private void methods() {
@@ -61,5 +64,31 @@ final class Face {
             checks.due(c + " is static", true, Modifier.isStatic(c.getModifiers()));
             checks.due(c + " is not public", false, Modifier.isPublic(c.getModifiers()));
         }
+    }
+
+    private void sizes() {
+        List<Class<?>> all = new ArrayList<>(Arrays.asList(BooksMoved.class.getDeclaredClasses()));
+        all.add(BooksMoved.class);
+        checks.due("at most twelve classes", true, all.size() <= 12);
+        for (Class<?> c : all) {
+            int fields = 0;
+            for (Field f : c.getDeclaredFields()) {
+                fields += Modifier.isStatic(f.getModifiers()) ? 0 : 1;
+                checks.due(f + " is of a type that may be", true, mayBe(f.getType(), all));
+            }
+            checks.due(c + " has at most twenty fields", true, fields <= 20);
+            for (Method m : c.getDeclaredMethods()) {
+                checks.due(m + " takes at most seven parameters", true, m.getParameterCount() <= 7);
+            }
+        }
+    }
+
+    /** Numbers, booleans, classes of its own; rows of those; rows of rows of numbers alone. */
+    private static boolean mayBe(Class<?> type, List<Class<?>> own) {
+        Class<?> part = type.isArray() ? type.getComponentType() : type;
+        if (part.isArray()) {
+            return part.getComponentType().isPrimitive() && part.getComponentType() != boolean.class;
+        }
+        return part.isPrimitive() || own.contains(part);
     }
 }
