@@ -13,6 +13,7 @@ public final class AllTests {
         new EdgesOfRow(checks).all();
         new Refused(checks).all();
         new ModelRuns(checks).all();
+        new Readme(checks).all();
         new Face(checks).all();
         new Language(checks, args.length > 0 ? args[0] : "src/main/java/BooksMoved.java").all();
         System.out.println(checks.passed() + " passed, " + checks.failed() + " failed");
